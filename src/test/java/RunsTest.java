@@ -1,0 +1,155 @@
+/**
+ * Long runs of calls, drawn by a fixed rule, on the program and on the reference: all answers are
+ * the same. Ranges are drawn with their edges and, now and then, just outside them.
+ */
+public final class RunsTest {
+    private static final int RUNS = 400;
+    private static final int CALLS = 120;
+    private static final int MOST_CALLS = 512;
+
+    private final Check check = new Check("RunsTest");
+    private long drawn = 20240229;
+    private Barrierbook book;
+    private Reference reference;
+    private int run;
+    private int calls;
+
+    public static void main(String[] args) {
+        RunsTest test = new RunsTest();
+        for (int run = 1; run <= RUNS; run++) {
+            test.compareRun(run);
+        }
+        test.check.finish();
+    }
+
+    private void compareRun(int number) {
+        run = number;
+        calls = 0;
+        book = new Barrierbook();
+        reference = new Reference();
+        while (calls < CALLS) {
+            if (draw(100) < 25) {
+                set();
+            }
+            tellSome();
+            askAll();
+        }
+        if (calls > MOST_CALLS) {
+            throw new IllegalStateException("the test makes more calls than are promised");
+        }
+    }
+
+    private void set() {
+        switch (draw(4)) {
+            case 0 -> setAsset();
+            case 1 -> setMoves();
+            case 2 -> setNote();
+            default -> setKind();
+        }
+    }
+
+    private void setAsset() {
+        int asset = draw(50) == 0 ? -1 : draw(50) == 0 ? 2 : draw(2);
+        int first = drawNear(100, 1000);
+        int rise = drawNear(0, draw(2) == 0 ? 200 : 60);
+        int fall = drawNear(0, draw(2) == 0 ? 200 : 60);
+        same("setAsset(" + asset + ", " + first + ", " + rise + ", " + fall + ")",
+                Check.thrownBy(() -> book.setAsset(asset, first, rise, fall)),
+                Check.thrownBy(() -> reference.setAsset(asset, first, rise, fall)));
+    }
+
+    private void setMoves() {
+        boolean isAgainst = draw(2) == 0;
+        int chance = drawNear(1, 9);
+        same("setMoves(" + isAgainst + ", " + chance + ")",
+                Check.thrownBy(() -> book.setMoves(isAgainst, chance)),
+                Check.thrownBy(() -> reference.setMoves(isAgainst, chance)));
+    }
+
+    private void setNote() {
+        int periods = drawNear(1, 8);
+        int barrier = drawNear(0, 100);
+        int couponLevel = drawNear(0, 150);
+        int callLevel = drawNear(0, 200);
+        int coupon = drawNear(0, 500);
+        same("setNote(" + periods + ", " + barrier + ", " + couponLevel + ", " + callLevel
+                        + ", " + coupon + ")",
+                Check.thrownBy(() -> book.setNote(periods, barrier, couponLevel, callLevel, coupon)),
+                Check.thrownBy(() -> reference.setNote(periods, barrier, couponLevel, callLevel, coupon)));
+    }
+
+    private void setKind() {
+        boolean isAtEnd = draw(2) == 0;
+        boolean remembers = draw(2) == 0;
+        same("setKind(" + isAtEnd + ", " + remembers + ")",
+                Check.thrownBy(() -> book.setKind(isAtEnd, remembers)),
+                Check.thrownBy(() -> reference.setKind(isAtEnd, remembers)));
+    }
+
+    private void tellSome() {
+        for (int i = draw(4); i > 0; i--) {
+            if (draw(4) == 0) {
+                same("takeBack()", answer(book::takeBack), answer(reference::takeBack));
+            } else {
+                boolean isUp = draw(2) == 0;
+                same("tell(" + isUp + ")", answer(() -> book.tell(isUp)),
+                        answer(() -> reference.tell(isUp)));
+            }
+        }
+    }
+
+    private void askAll() {
+        int asset = draw(30) == 0 ? -1 : draw(30) == 0 ? 2 : draw(2);
+        int period = drawNear(1, 8);
+        same("told()", answer(book::told), answer(reference::told));
+        same("price(" + asset + ")", answer(() -> book.price(asset)),
+                answer(() -> reference.price(asset)));
+        same("worst()", answer(book::worst), answer(reference::worst));
+        same("isKnocked()", answer(book::isKnocked), answer(reference::isKnocked));
+        same("missed()", answer(book::missed), answer(reference::missed));
+        same("paid()", answer(book::paid), answer(reference::paid));
+        same("isOver()", answer(book::isOver), answer(reference::isOver));
+        same("worth()", answer(book::worth), answer(reference::worth));
+        same("worthByPaths()", answer(book::worthByPaths), answer(reference::worth));
+        same("divisor()", answer(book::divisor), answer(reference::divisor));
+        same("states()", answer(book::states), answer(reference::states));
+        same("least()", answer(book::least), answer(reference::least));
+        same("most()", answer(book::most), answer(reference::most));
+        same("endsIn(" + period + ")", answer(() -> book.endsIn(period)),
+                answer(() -> reference.endsIn(period)));
+        same("knocks()", answer(book::knocks), answer(reference::knocks));
+    }
+
+    private void same(String call, String got, String want) {
+        calls++;
+        check.due("run " + run + ", call " + calls + ": " + call, got, want);
+    }
+
+    /** A call that answers something. */
+    private interface Question {
+        Object ask();
+    }
+
+    private static String answer(Question question) {
+        Object[] answered = new Object[1];
+        String thrown = Check.thrownBy(() -> answered[0] = question.ask());
+        return answered[0] == null ? thrown : answered[0].toString();
+    }
+
+    /** A number of the range, often one of its edges, seldom one just outside. */
+    private int drawNear(int from, int to) {
+        int kind = draw(100);
+        if (kind < 2) {
+            return kind == 0 ? from - 1 : to + 1;
+        }
+        if (kind < 14) {
+            return kind < 8 ? from : to;
+        }
+        return from + draw(to - from + 1);
+    }
+
+    private int draw(int bound) {
+        drawn = drawn * 6364136223846793005L + 1442695040888963407L;
+        return (int) ((drawn >>> 33) % bound);
+    }
+}

@@ -470,7 +470,6 @@ public final class Barrierbook {
             }
             paidSum = 0;
             knockedSum = 0;
-            lastStates = 0;
             leastPaid = Integer.MAX_VALUE;
             mostPaid = 0;
         }

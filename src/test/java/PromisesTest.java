@@ -37,6 +37,7 @@ public final class PromisesTest {
         endsIn();
         knocks();
         askingChangesNothing();
+        eachQuestionAskedFirst();
         CHECK.finish();
     }
 
@@ -542,6 +543,10 @@ public final class PromisesTest {
         book.setNote(2, 0, 100, 200, 50);
         book.tell(false);
         dueWorth("coupons remembered are counted", book, 3 * 1100 + 7 * 1000, 10);
+        book.setNote(3, 0, 94, 200, 50);
+        book.tell(false);
+        book.tell(false);
+        dueWorth("two coupons remembered are counted", book, 3 * 1150 + 7 * 1000, 10);
     }
 
     private static void worthIsWide() {
@@ -629,6 +634,14 @@ public final class PromisesTest {
         book.setNote(1, 100, 100, 0, 500);
         due("least(), all but lost", book.least(), 10);
         due("most(), a coupon", book.most(), 1500);
+        // the asset 1 alone moves: to 115 and called with one coupon, to 80, 95, 110 and called
+        // with two, or to 80, 95, 75, 90, 105 with three, alike to 80, 60, 75, 90, 105 with two
+        book.setMoves(true, 5);
+        book.setAsset(0, 100, 0, 0);
+        book.setAsset(1, 100, 15, 20);
+        book.setNote(5, 0, 90, 100, 100);
+        due("most(), states alike but for what was paid", book.most(), 1300);
+        due("least(), states alike but for what was paid", book.least(), 1000);
     }
 
     // ---- promise 21
@@ -705,6 +718,39 @@ public final class PromisesTest {
         other.tell(true);
         due("another object's moves: told()", book.told(), 1);
         due("another object's moves: price(0)", book.price(0), 460);
+    }
+
+    /** No answer hangs on what was asked before it: each is asked first behind the same moves. */
+    private static void eachQuestionAskedFirst() {
+        due("first: worth()", remembering().worth(), 5 * 1100 + 5 * 1000);
+        due("first: worthByPaths()", remembering().worthByPaths(), 5 * 1100 + 5 * 1000);
+        due("first: divisor()", remembering().divisor(), 10);
+        due("first: states()", remembering().states(), 2);
+        due("first: least()", remembering().least(), 1000);
+        due("first: most()", remembering().most(), 1100);
+        due("first: endsIn(2)", remembering().endsIn(2), 10);
+        due("first: knocks()", remembering().knocks(), 0);
+
+        Barrierbook book = remembering();
+        book.tell(true);
+        due("once more: most()", book.most(), 0);
+        book.takeBack();
+        due("once more: knocks()", book.knocks(), 0);
+        due("once more: most()", book.most(), 1100);
+        book.setNote(2, 100, 100, 200, 50);
+        book.tell(false);
+        due("once more: knocks()", book.knocks(), 10);
+        book.tell(false);
+        due("once more: least()", book.least(), 0);
+    }
+
+    /** A note of two periods that has missed and remembers the coupon of the first one. */
+    private static Barrierbook remembering() {
+        Barrierbook book = new Barrierbook();
+        book.setKind(false, true);
+        book.setNote(2, 0, 100, 200, 50);
+        book.tell(false);
+        return book;
     }
 
     private static void due(String call, long got, long want) {

@@ -3,8 +3,9 @@
  * the same. Ranges are drawn with their edges and, now and then, just outside them.
  */
 public final class RunsTest {
-    private static final int RUNS = 400;
-    private static final int CALLS = 120;
+    private static final int RUNS = 1000;
+    private static final int CALLS = 300;
+    private static final int QUESTIONS = 10;
     private static final int MOST_CALLS = 512;
 
     private final Check check = new Check("RunsTest");
@@ -32,7 +33,7 @@ public final class RunsTest {
                 set();
             }
             tellSome();
-            askAll();
+            askSome();
         }
         if (calls > MOST_CALLS) {
             throw new IllegalStateException("the test makes more calls than are promised");
@@ -98,26 +99,44 @@ public final class RunsTest {
         }
     }
 
-    private void askAll() {
+    /** Asks some questions, in any order, so that an answer that hangs on another one is seen. */
+    private void askSome() {
+        for (int i = 0; i < QUESTIONS; i++) {
+            if (draw(2) == 0) {
+                askStanding(draw(7));
+            } else {
+                askWorth(draw(8));
+            }
+        }
+    }
+
+    private void askStanding(int question) {
         int asset = draw(30) == 0 ? -1 : draw(30) == 0 ? 2 : draw(2);
+        switch (question) {
+            case 0 -> same("told()", answer(book::told), answer(reference::told));
+            case 1 -> same("price(" + asset + ")", answer(() -> book.price(asset)),
+                    answer(() -> reference.price(asset)));
+            case 2 -> same("worst()", answer(book::worst), answer(reference::worst));
+            case 3 -> same("isKnocked()", answer(book::isKnocked), answer(reference::isKnocked));
+            case 4 -> same("missed()", answer(book::missed), answer(reference::missed));
+            case 5 -> same("paid()", answer(book::paid), answer(reference::paid));
+            default -> same("isOver()", answer(book::isOver), answer(reference::isOver));
+        }
+    }
+
+    private void askWorth(int question) {
         int period = drawNear(1, 8);
-        same("told()", answer(book::told), answer(reference::told));
-        same("price(" + asset + ")", answer(() -> book.price(asset)),
-                answer(() -> reference.price(asset)));
-        same("worst()", answer(book::worst), answer(reference::worst));
-        same("isKnocked()", answer(book::isKnocked), answer(reference::isKnocked));
-        same("missed()", answer(book::missed), answer(reference::missed));
-        same("paid()", answer(book::paid), answer(reference::paid));
-        same("isOver()", answer(book::isOver), answer(reference::isOver));
-        same("worth()", answer(book::worth), answer(reference::worth));
-        same("worthByPaths()", answer(book::worthByPaths), answer(reference::worth));
-        same("divisor()", answer(book::divisor), answer(reference::divisor));
-        same("states()", answer(book::states), answer(reference::states));
-        same("least()", answer(book::least), answer(reference::least));
-        same("most()", answer(book::most), answer(reference::most));
-        same("endsIn(" + period + ")", answer(() -> book.endsIn(period)),
-                answer(() -> reference.endsIn(period)));
-        same("knocks()", answer(book::knocks), answer(reference::knocks));
+        switch (question) {
+            case 0 -> same("worth()", answer(book::worth), answer(reference::worth));
+            case 1 -> same("worthByPaths()", answer(book::worthByPaths), answer(reference::worth));
+            case 2 -> same("divisor()", answer(book::divisor), answer(reference::divisor));
+            case 3 -> same("states()", answer(book::states), answer(reference::states));
+            case 4 -> same("least()", answer(book::least), answer(reference::least));
+            case 5 -> same("most()", answer(book::most), answer(reference::most));
+            case 6 -> same("endsIn(" + period + ")", answer(() -> book.endsIn(period)),
+                    answer(() -> reference.endsIn(period)));
+            default -> same("knocks()", answer(book::knocks), answer(reference::knocks));
+        }
     }
 
     private void same(String call, String got, String want) {

@@ -385,7 +385,7 @@ public final class Barrierbook {
 
         void add(Standing standing, long weight, int leastPaid, int mostPaid) {
             int index = find(standing);
-            if (index != NONE) {
+            if (holds(index)) {
                 weights[index] += weight;
                 leasts[index] = Math.min(leasts[index], leastPaid);
                 mosts[index] = Math.max(mosts[index], mostPaid);
@@ -470,7 +470,7 @@ public final class Barrierbook {
             }
             paidSum = 0;
             knockedSum = 0;
-            leastPaid = Integer.MAX_VALUE;
+            leastPaid = NONE;
             mostPaid = 0;
         }
 
@@ -511,7 +511,7 @@ public final class Barrierbook {
             if (branch.isKnocked) {
                 knockedSum += wholeWeight;
             }
-            leastPaid = Math.min(leastPaid, branchLeast);
+            leastPaid = leastPaid == NONE ? branchLeast : Math.min(leastPaid, branchLeast);
             mostPaid = Math.max(mostPaid, branchMost);
         }
     }

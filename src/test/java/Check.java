@@ -1,5 +1,12 @@
 /** Counts the answers that are not as due and tells them; a test ends with {@link #finish}. */
 final class Check {
+    /** A call that answers something. */
+    interface Question {
+        Object ask();
+    }
+
+    private static final String NOTHING_THROWN = "nothing thrown";
+
     private final String test;
     private int asked = 0;
     private int wrong = 0;
@@ -33,13 +40,24 @@ final class Check {
         due(call, thrownBy(run), want.getName());
     }
 
+    void dueNoThrow(String call, Runnable run) {
+        due(call, thrownBy(run), NOTHING_THROWN);
+    }
+
     static String thrownBy(Runnable run) {
         try {
             run.run();
-            return "nothing thrown";
+            return NOTHING_THROWN;
         } catch (RuntimeException e) {
             return e.getClass().getName();
         }
+    }
+
+    /** What a call answers, or the name of the exception that it throws. */
+    static String answer(Question question) {
+        Object[] answered = new Object[1];
+        String thrown = thrownBy(() -> answered[0] = question.ask());
+        return answered[0] == null ? thrown : answered[0].toString();
     }
 
     void finish() {

@@ -90,11 +90,11 @@ public final class RunsTest {
     private void tellSome() {
         for (int i = draw(4); i > 0; i--) {
             if (draw(4) == 0) {
-                same("takeBack()", answer(book::takeBack), answer(reference::takeBack));
+                same("takeBack()", Check.answer(book::takeBack), Check.answer(reference::takeBack));
             } else {
                 boolean isUp = draw(2) == 0;
-                same("tell(" + isUp + ")", answer(() -> book.tell(isUp)),
-                        answer(() -> reference.tell(isUp)));
+                same("tell(" + isUp + ")", Check.answer(() -> book.tell(isUp)),
+                        Check.answer(() -> reference.tell(isUp)));
             }
         }
     }
@@ -113,46 +113,36 @@ public final class RunsTest {
     private void askStanding(int question) {
         int asset = draw(30) == 0 ? -1 : draw(30) == 0 ? 2 : draw(2);
         switch (question) {
-            case 0 -> same("told()", answer(book::told), answer(reference::told));
-            case 1 -> same("price(" + asset + ")", answer(() -> book.price(asset)),
-                    answer(() -> reference.price(asset)));
-            case 2 -> same("worst()", answer(book::worst), answer(reference::worst));
-            case 3 -> same("isKnocked()", answer(book::isKnocked), answer(reference::isKnocked));
-            case 4 -> same("missed()", answer(book::missed), answer(reference::missed));
-            case 5 -> same("paid()", answer(book::paid), answer(reference::paid));
-            default -> same("isOver()", answer(book::isOver), answer(reference::isOver));
+            case 0 -> same("told()", Check.answer(book::told), Check.answer(reference::told));
+            case 1 -> same("price(" + asset + ")", Check.answer(() -> book.price(asset)),
+                    Check.answer(() -> reference.price(asset)));
+            case 2 -> same("worst()", Check.answer(book::worst), Check.answer(reference::worst));
+            case 3 -> same("isKnocked()", Check.answer(book::isKnocked), Check.answer(reference::isKnocked));
+            case 4 -> same("missed()", Check.answer(book::missed), Check.answer(reference::missed));
+            case 5 -> same("paid()", Check.answer(book::paid), Check.answer(reference::paid));
+            default -> same("isOver()", Check.answer(book::isOver), Check.answer(reference::isOver));
         }
     }
 
     private void askWorth(int question) {
         int period = drawNear(1, 8);
         switch (question) {
-            case 0 -> same("worth()", answer(book::worth), answer(reference::worth));
-            case 1 -> same("worthByPaths()", answer(book::worthByPaths), answer(reference::worth));
-            case 2 -> same("divisor()", answer(book::divisor), answer(reference::divisor));
-            case 3 -> same("states()", answer(book::states), answer(reference::states));
-            case 4 -> same("least()", answer(book::least), answer(reference::least));
-            case 5 -> same("most()", answer(book::most), answer(reference::most));
-            case 6 -> same("endsIn(" + period + ")", answer(() -> book.endsIn(period)),
-                    answer(() -> reference.endsIn(period)));
-            default -> same("knocks()", answer(book::knocks), answer(reference::knocks));
+            case 0 -> same("worth()", Check.answer(book::worth), Check.answer(reference::worth));
+            case 1 -> same("worthByPaths()", Check.answer(book::worthByPaths),
+                    Check.answer(reference::worth));
+            case 2 -> same("divisor()", Check.answer(book::divisor), Check.answer(reference::divisor));
+            case 3 -> same("states()", Check.answer(book::states), Check.answer(reference::states));
+            case 4 -> same("least()", Check.answer(book::least), Check.answer(reference::least));
+            case 5 -> same("most()", Check.answer(book::most), Check.answer(reference::most));
+            case 6 -> same("endsIn(" + period + ")", Check.answer(() -> book.endsIn(period)),
+                    Check.answer(() -> reference.endsIn(period)));
+            default -> same("knocks()", Check.answer(book::knocks), Check.answer(reference::knocks));
         }
     }
 
     private void same(String call, String got, String want) {
         calls++;
         check.due("run " + run + ", call " + calls + ": " + call, got, want);
-    }
-
-    /** A call that answers something. */
-    private interface Question {
-        Object ask();
-    }
-
-    private static String answer(Question question) {
-        Object[] answered = new Object[1];
-        String thrown = Check.thrownBy(() -> answered[0] = question.ask());
-        return answered[0] == null ? thrown : answered[0].toString();
     }
 
     /** A number of the range, often one of its edges, seldom one just outside. */
